@@ -545,9 +545,9 @@ public final class SmallWindows {
 
     /** A picture, perhaps with gaps. */
     private static final class Sheet {
-        private int h = 1;
-        private int w = 1;
-        private final int[] cells = new int[MOST_CELLS];
+        int h = 1;
+        int w = 1;
+        final int[] cells = new int[MOST_CELLS];
 
         void lay(int rowCount, int columns) {
             h = rowCount;
@@ -590,15 +590,15 @@ public final class SmallWindows {
      * highest, so that the order of the numbers is the order of the pictures.
      */
     private static final class Rows {
-        private int c = 2;
-        private int w = 1;
-        private int size = 0;
+        int c = 2;
+        int w = 1;
+        int size = 0;
         /** A row of ring alone, in the form of the framed rows. */
-        private int ring = 0;
+        int ring = 0;
         /** Each row's parts, two bits each, with a part of the ring at both ends. */
-        private final int[] framed = new int[MOST_ROWS];
+        final int[] framed = new int[MOST_ROWS];
         /** The powers of the number of colours: a cell's weight in a row's number. */
-        private final int[] power = new int[MOST_SIDE + 2];
+        final int[] power = new int[MOST_SIDE + 2];
 
         void list(int colours, int columns) {
             c = colours;
@@ -644,17 +644,21 @@ public final class SmallWindows {
 
     /** The pictures of a size that fit and have in each cell a colour that is wished there, in order. */
     private static final class Album {
+        final Rows rows;
         private final Rule rule;
-        private final Rows rows;
         /** Colours by bits, for each cell. */
-        private final int[] wishes = new int[MOST_CELLS];
+        final int[] wishes = new int[MOST_CELLS];
         /** For row y and what stands in it: how many ways there are to fill the rows below (0: not wished). */
         private final long[] ways = new long[MOST_SIDE * MOST_ROWS];
-        /** The ways below a broken line: the new row's cells up to x, then the upper row's from x on. */
+        /**
+         * The ways below a broken line, by its colours: the lower row's cells before x, then the upper
+         * row's from x - 1 on, numbered as rows are. Going left cell by cell takes far fewer steps than
+         * trying each row below each other.
+         */
         private final long[] front = new long[MOST_COLOURS * MOST_ROWS];
         /** The numbers of the rows of the picture at which the album is open; NONE: before the first. */
         private final int[] at = new int[MOST_SIDE];
-        private final Sheet page = new Sheet();
+        final Sheet page = new Sheet();
 
         Album(Rule rule, Rows rows) {
             this.rule = rule;
@@ -691,7 +695,7 @@ public final class SmallWindows {
             return true;
         }
 
-        /** The front behind a whole row y: all its cells, and the last one of the row above. */
+        /** The front that has all cells of row y, and the last one of the row above. */
         private void closeRight(int y) {
             int c = rows.c;
             for (int r = 0; r < rows.size; r++) {
@@ -704,7 +708,7 @@ public final class SmallWindows {
             }
         }
 
-        /** Where the front has the new row's cell x, it gets the cell above its left neighbour. */
+        /** Where the front has the lower row's cell x, it gets the upper row's cell x - 1. */
         private void moveLeft(int x) {
             int c = rows.c;
             int weight = rows.power[rows.w - x];
@@ -771,7 +775,7 @@ public final class SmallWindows {
             return sum;
         }
 
-        private long waysUnder(int upper, int y, int r) {
+        long waysUnder(int upper, int y, int r) {
             long number = ways[y * MOST_ROWS + r];
             return number != 0 && rule.joins(upper, rows.framed[r], rows.w) ? number : 0;
         }
@@ -832,7 +836,9 @@ public final class SmallWindows {
 
         /** Goes on to the next picture that is unlike in its rows up to y: whether there is one. */
         boolean advance(int from) {
-            Arrays.fill(at, from + 1, MOST_SIDE, NONE);
+            for (int below = from + 1; below < page.h; below++) {
+                at[below] = NONE;
+            }
             int y = from;
             // rows have ways below them, so it goes up at most once, and then down
             for (int i = 0; i < 2 * MOST_SIDE && y >= 0 && y < page.h; i++) {
@@ -1179,7 +1185,9 @@ public final class SmallWindows {
         }
 
         private void squareTable(int n) {
-            Arrays.fill(square, 0, n * n, 0);
+            for (int i = 0; i < n * n; i++) {
+                square[i] = 0;
+            }
             for (int i = 0; i < n; i++) {
                 for (int k = 0; k < n; k++) {
                     long factor = table[i * n + k];
@@ -1204,19 +1212,19 @@ public final class SmallWindows {
     private static final class Walker {
         private static final int PLACES = (MOST_SIDE + 2) * (MOST_SIDE + 2);
 
-        private int states = 1;
+        int states = 1;
         private final int[] acts = new int[MOST_STATES * SIGHTS];
         private final int[] thens = new int[MOST_STATES * SIGHTS];
         /** The last walk that came in a state to a place: so nothing needs to be wiped between walks. */
         private final int[] been = new int[PLACES * MOST_STATES];
         private int walks = 0;
-        private int end = LEFT;
-        private int steps = 0;
-        private int state = 0;
         private int x = 0;
         private int y = 0;
+        int end = LEFT;
+        int steps = 0;
+        int state = 0;
         /** The lowest row of the picture in which it has seen a cell. */
-        private int lowestRow = 0;
+        int lowestRow = 0;
 
         void become(int n) {
             states = n;
