@@ -462,6 +462,7 @@ public final class BoundaryTests {
     test(0, "Refused, and nothing changes: UNKNOWN (no such CELL, COLOUR, STATE), OUTSIDE (another number is not as told),"
         + " NOT (not now: as told), SPENT: the first of these that fits", BoundaryTests::termFirstRefusal);
     test(0, "answers and state changes described above", BoundaryTests::asksChangeNothing);
+    test(0, "answers and state changes described above", BoundaryTests::asksAreForgotten);
   }
 
   private static void termColours() {
@@ -1090,7 +1091,22 @@ public final class BoundaryTests {
     x.act(0, 0, 3, 0);
     x.act(0, 3, 1, 0);
     ends(x, "to and fro", 2, 2, 0);
+    for (int h = 2; h <= 5; h++) for (int w = 1; w <= 5; w++) fromSideToSide(h, w);
     longWalk();
+  }
+
+  /** In the same state to the ring at a row's end and to the ring before the next row: these are two places. */
+  private static void fromSideToSide(int h, int w) {
+    int[] p = new int[h * w];
+    p[w] = 1;
+    Counted x = lay(new Counted(), h, w, p);
+    x.walker(2);
+    x.act(0, 0, 0, 0);
+    x.act(0, 3, 1, 1);
+    x.act(1, 3, 2, 1);
+    x.act(1, 0, 2, 1);
+    x.act(1, 1, 2, 0);
+    ends(x, "from side to side of " + h + " x " + w, 0, 2 * w + 4, 1);
   }
 
   /** As long a walk over five by five as could be found: never twice in the same state to the same place. */
@@ -1222,6 +1238,49 @@ public final class BoundaryTests {
       }
       changesNothing(maker, "walked", x -> x.walked(3, 3));
     }
+  }
+
+  /** What was asked for other sizes or of another rule does not come into later answers. */
+  private static void asksAreForgotten() {
+    for (int seed = 0; seed < 60; seed++) {
+      Counted often = new Counted();
+      Counted quiet = new Counted();
+      for (Counted x : new Counted[] {often, quiet}) {
+        Random random = new Random(seed);
+        if (seed % 2 == 0) x.colours(3);
+        for (int i = 0; i < 100; i++) x.allow(random.nextInt(256), true);
+        if (x == often) askMuch(x);
+        for (int i = 0; i < 30; i++) x.allow(random.nextInt(256), random.nextInt(3) == 0);
+        lay(x, 1 + random.nextInt(5), 1 + random.nextInt(5), mixed(2, 25)).letter(0, 1);
+        if (seed % 4 < 2) x.learn();
+        x.walker(2);
+        for (int sees = 0; sees < 4; sees++) x.act(0, sees, random.nextInt(5), 1);
+        if (seed % 3 == 0) x.cell(0, -1);
+      }
+      List<Integer> got = askMuch(often);
+      List<Integer> want = askMuch(quiet);
+      for (int i = 0; i < want.size(); i++) due("ask " + i + " after others", got.get(i), want.get(i));
+    }
+  }
+
+  private static List<Integer> askMuch(Counted x) {
+    List<Integer> told = new ArrayList<>();
+    for (int w = 3; w >= 1; w--) {
+      told.add(x.live(w));
+      told.add(x.endless(w));
+      told.add(x.lowest(w));
+      told.add(x.tall(w, 1));
+      told.add(x.tall(w, 1000));
+      told.add(x.views(4, w));
+      told.add(x.walked(3, w));
+      told.add(x.many(5, w));
+      told.add(x.looks(w, 5, 31));
+      told.add(x.look(2, w, 1, 1 - w / 3));
+      told.add(x.picture(w, 4, 0, 3));
+    }
+    told.addAll(List.of(x.rank(), x.sizes(), x.endings(), x.ending(0), x.sure(0), x.clues(), x.wrong(), x.blocks(0), x.blocks(-1)));
+    addWalk(told, x);
+    return told;
   }
 
   // ---- rules, pictures
@@ -2058,7 +2117,10 @@ public final class BoundaryTests {
     due("the model's number", all.size(), 300);
     Counted x = without(c, not);
     due("many(" + h + ", " + w + ")", x.many(h, w), 300);
-    for (int i : new int[] {0, 1, 150, 298, 299}) due("clues() of picture " + i, lay(x, h, w, all.get(i)).clues(), cluesOf(all, all.get(i)));
+    for (int i : new int[] {0, 1, 150, 298, 299}) {
+      int[] own = all.get(i);
+      due("clues() of picture " + i, lay(x, h, w, own).clues(), cluesOf(all, own));
+    }
   }
 
   private static void just301(int c, int h, int w, int... not) {
@@ -2173,7 +2235,9 @@ public final class BoundaryTests {
 
   /** Looks with bits that so many cells do not have. */
   private static int[] looksBeyond(int cells) {
-    return new int[] {-1, 1 << cells, (1 << cells) + 1, (2 << cells) - 1, 1 << 30, Integer.MIN_VALUE, Integer.MIN_VALUE + 1, Integer.MAX_VALUE};
+    return new int[] {
+      -1, 1 << cells, (1 << cells) + 1, (2 << cells) - 1, 1 << 30, Integer.MIN_VALUE, Integer.MIN_VALUE + 1, Integer.MAX_VALUE
+    };
   }
 
   private static void lookInside() {
@@ -2210,7 +2274,10 @@ public final class BoundaryTests {
     // 0 1 / 2 0 alone fits, and its look is 2
     Counted x = only(3, NINE);
     for (int look = 0; look < 16; look++) {
-      for (int cell = 0; cell < 4; cell++) due("look(2, 2, " + look + ", " + cell + ")", x.look(2, 2, look, cell), look == 2 ? cells(0, 1, 2, 0)[cell] : NONE);
+      for (int cell = 0; cell < 4; cell++) {
+        int want = look == 2 ? cells(0, 1, 2, 0)[cell] : NONE;
+        due("look(2, 2, " + look + ", " + cell + ")", x.look(2, 2, look, cell), want);
+      }
     }
     // a letter that no colour has
     x = without(2);
@@ -2238,7 +2305,9 @@ public final class BoundaryTests {
     due("views(3, 4) of a new one", new Counted().views(3, 4), 0);
     due("views(2, 2) of one picture", only(3, NINE).views(2, 2), 1);
     Counted x = without(3);
-    for (int h = 1; h <= 5; h++) for (int w = 1; w <= 5; w++) if (h * w <= 12) due("views(" + h + ", " + w + ")", x.views(h, w), 1 << h * w);
+    for (int h = 1; h <= 5; h++) {
+      for (int w = 1; w <= 5; w++) if (h * w <= 12) due("views(" + h + ", " + w + ")", x.views(h, w), 1 << h * w);
+    }
     x.letter(1, 0);
     due("views(3, 4) of one letter", x.views(3, 4), 1);
     x.letter(2, 1);
@@ -2499,7 +2568,9 @@ public final class BoundaryTests {
       for (int state : new int[] {0, n - 1}) {
         for (int sees = 0; sees < 4; sees++) {
           for (int act = 0; act < 6; act++) {
-            for (int then : new int[] {0, n - 1}) due("act(" + state + ", " + sees + ", " + act + ", " + then + ")", x.act(state, sees, act, then), 1);
+            for (int then : new int[] {0, n - 1}) {
+              due("act(" + state + ", " + sees + ", " + act + ", " + then + ")", x.act(state, sees, act, then), 1);
+            }
           }
         }
       }
@@ -2656,7 +2727,9 @@ public final class BoundaryTests {
     for (int c = 2; c <= 3; c++) {
       Counted x = without(c);
       for (int colour = 0; colour < c; colour++) x.act(0, colour, 4, 0);
-      for (int h = 1; h <= 5; h++) for (int w = 1; w <= 5; w++) if (h * w <= 9) due("walked(" + h + ", " + w + ") of all", x.walked(h, w), power(c, h * w));
+      for (int h = 1; h <= 5; h++) {
+        for (int w = 1; w <= 5; w++) if (h * w <= 9) due("walked(" + h + ", " + w + ") of all", x.walked(h, w), power(c, h * w));
+      }
       // those alone that have 1 in cell 0
       for (int colour = 0; colour < c; colour++) x.act(0, colour, colour == 1 ? 4 : 5, 0);
       due("walked(3, 3)", x.walked(3, 3), power(c, 8));
