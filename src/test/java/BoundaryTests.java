@@ -62,16 +62,11 @@ public final class BoundaryTests {
     if (got != want) fault(call + " answered " + got + ", due is " + want);
   }
 
-  /** Each quote stands in the document, and the quotes of a promise leave none of its words out. */
+  /** Each quote stands in the document, and the quotes of a part leave none of its words out. */
   private static void readDocument() throws IOException {
-    Path path = Path.of(DOCUMENT);
-    if (!Files.exists(path)) {
-      System.out.println("no " + DOCUMENT + " here: the sentences are not looked up in it");
-      return;
-    }
-    String text = Files.readString(path).replaceAll("\\s+", " ");
+    String text = Files.readString(Path.of(DOCUMENT)).replaceAll("\\s+", " ");
     now = "the document";
-    for (String quote : quotes.get(0)) if (!text.contains(quote)) fault("it does not say: " + quote);
+    readTerms(text);
     for (int promise = 1; promise <= PROMISES; promise++) {
       int from = text.indexOf("## Promise " + promise + ":");
       if (from < 0) {
@@ -79,16 +74,39 @@ public final class BoundaryTests {
         continue;
       }
       int to = text.indexOf(" ## ", from);
-      String left = text.substring(from, to < 0 ? text.length() : to).replaceFirst("^[^`]*`[^`]*`:", "");
-      List<String> longestFirst = new ArrayList<>(quotes.get(promise));
-      longestFirst.sort((a, b) -> b.length() - a.length());
-      for (String quote : longestFirst) {
-        int at = left.indexOf(quote);
-        if (at < 0) fault("promise " + promise + " does not say: " + quote);
-        else left = left.substring(0, at) + "|" + left.substring(at + quote.length());
-      }
-      if (!left.matches("[|.,:; ]*")) fault("promise " + promise + " has words without a test: " + left);
+      String said = text.substring(from, to < 0 ? text.length() : to).replaceFirst("^[^`]*`[^`]*`:", "");
+      compareQuotes("promise " + promise, said, quotes.get(promise));
     }
+  }
+
+  /** What stands before the promises: the face is left to LanguageTests, and what "is free" to nobody. */
+  private static void readTerms(String text) {
+    int colours = text.indexOf("======== 1 "), face = text.indexOf("## The public face");
+    int terms = text.indexOf("## Terms"), promises = text.indexOf("## Promise 1:"), free = text.indexOf("## Not promised");
+    if (colours < 0 || face < colours || terms < face || promises < terms || free < promises) {
+      fault("it has other parts");
+      return;
+    }
+    String said = text.substring(colours, face) + text.substring(terms, promises);
+    said = said.replaceAll("======== \\d|```(text)?|## Terms|what later calls answer is free", "")
+        .replaceAll("Ahead of the calls [^.]* the interface says: ---- [^.]*\\.", "");
+    List<String> ofTerms = new ArrayList<>();
+    for (String quote : quotes.get(0)) {
+      if (text.indexOf(quote, free) < 0) ofTerms.add(quote);
+    }
+    compareQuotes("what stands before the promises", said, ofTerms);
+  }
+
+  private static void compareQuotes(String part, String said, List<String> quoted) {
+    String left = said;
+    List<String> longestFirst = new ArrayList<>(quoted);
+    longestFirst.sort((a, b) -> b.length() - a.length());
+    for (String quote : longestFirst) {
+      int at = left.indexOf(quote);
+      if (at < 0) fault(part + " does not say: " + quote);
+      else left = left.substring(0, at) + "|" + left.substring(at + quote.length());
+    }
+    if (!left.matches("[|.,:; ]*")) fault(part + " has words without a test: " + left);
   }
 
   /** An object whose calls are counted, since what it answers after the 512th is free. */

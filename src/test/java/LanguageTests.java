@@ -5,26 +5,27 @@ import java.lang.reflect.Method;
 import java.lang.reflect.Modifier;
 import java.nio.file.Files;
 import java.nio.file.Path;
+import java.util.ArrayList;
 import java.util.Arrays;
 import java.util.HashSet;
+import java.util.List;
+import java.util.Map;
 import java.util.Random;
 import java.util.Set;
+import java.util.TreeMap;
 import java.util.TreeSet;
 import java.util.regex.Matcher;
 import java.util.regex.Pattern;
 
 /** The rules of LANGUAGE.md that can be looked at from outside, and that no call ever throws. */
 public final class LanguageTests {
-  private static final String SOURCE = "src/main/java/SmallWindows.java";
-  private static final String FACE =
-      "colours(int) allow(int,boolean) desk(int,int) cell(int,int) paint(long) learn() wrong() blocks(int) close(int) "
-          + "many(int,int) picture(int,int,int,int) rank() sizes() endings() ending(int) sure(int) clues() "
-          + "letter(int,int) looks(int,int,int) look(int,int,int,int) views(int,int) tall(int,int) live(int) "
-          + "endless(int) lowest(int) walker(int) act(int,int,int,int) walk(int) walked(int,int) count(int)";
+  private static final String SOURCE = "src/main/java/SmallWindows.java", DOCUMENT = "../shared/DOC.md";
   private static final String[] FORBIDDEN = {
     "throw", "throws", "try", "catch", "finally", "synchronized", "assert", "volatile", "transient", "native", "package",
     "var", "yield", "protected", "instanceof", "System", "Object", "hashCode", "toString", "Random", "Thread", "goto"
   };
+
+  private static final List<String> LIBRARY = List.of("Arrays.fill(", "Math.min(", "Integer.bitCount(");
 
   private static int wrong = 0;
 
@@ -37,6 +38,7 @@ public final class LanguageTests {
 
   public static void main(String[] args) throws Exception {
     face();
+    headings();
     members(SmallWindows.class);
     source();
     room();
@@ -45,30 +47,72 @@ public final class LanguageTests {
     if (wrong != 0) System.exit(1);
   }
 
-  private static void face() {
+  /** The face, as the document writes it out. */
+  private static void face() throws Exception {
     Class<?> c = SmallWindows.class;
-    check(Modifier.isFinal(c.getModifiers()) && Modifier.isPublic(c.getModifiers()), "the class is public and final");
-    Set<String> want = new TreeSet<>(Arrays.asList(FACE.split(" ")));
-    Set<String> got = new TreeSet<>();
-    Set<String> names = new HashSet<>();
+    check(c.getModifiers() == (Modifier.FINAL | Modifier.PUBLIC), "the class is public and final");
+    check(c.getSuperclass() == Object.class && c.getInterfaces().length == 0, "the class stands alone");
+    String text = Files.readString(Path.of(DOCUMENT));
+    int from = text.indexOf("public final class SmallWindows {");
+    String told = text.substring(from, text.indexOf("```", from));
+    methods(c, told);
+    constants(c, told);
+    check(told.contains("public SmallWindows();"), "the document has a constructor without arguments");
+    check(c.getDeclaredConstructors().length == 1 && c.getConstructors().length == 1, "one constructor, and it is public");
+    check(c.getConstructors()[0].getParameterCount() == 0, "it takes nothing");
+  }
+
+  private static void methods(Class<?> c, String told) {
+    Set<String> want = new TreeSet<>(), got = new TreeSet<>(), names = new HashSet<>();
+    Matcher method = Pattern.compile("public (\\w+ \\w+)\\(([^)]*)\\);").matcher(told);
+    while (method.find()) want.add(method.group(1) + "(" + method.group(2).replaceAll("(\\w+) \\w+", "$1") + ")");
+    check(want.size() == 30, "the document has thirty methods");
     for (Method m : c.getDeclaredMethods()) {
       if (Modifier.isPrivate(m.getModifiers()) || m.isSynthetic()) continue;
-      StringBuilder text = new StringBuilder();
-      for (Class<?> p : m.getParameterTypes()) text.append(text.length() == 0 ? "" : ",").append(p.getName());
-      got.add(m.getName() + "(" + text + ")");
+      List<String> types = new ArrayList<>();
+      for (Class<?> p : m.getParameterTypes()) types.add(p.getName());
+      got.add(m.getReturnType().getName() + " " + m.getName() + "(" + String.join(", ", types) + ")");
       names.add(m.getName());
-      check(m.getReturnType() == int.class && m.getModifiers() == Modifier.PUBLIC, m.getName() + " is public and answers an int");
+      check(m.getModifiers() == Modifier.PUBLIC, m.getName() + " is public, and no more");
     }
     check(got.equals(want), "the public methods are those of the document: " + got);
-    check(c.getDeclaredConstructors().length == 1 && c.getConstructors().length == 1, "one constructor, and it is public");
-    for (Field f : c.getDeclaredFields()) {
-      boolean constant = "NONE UNKNOWN OUTSIDE NOT SPENT MANY".contains(f.getName());
-      check(constant == Modifier.isPublic(f.getModifiers()), f.getName() + " is public or not as the document says");
-      check(constant || Modifier.isPrivate(f.getModifiers()), f.getName() + " is private");
+    for (Method m : c.getDeclaredMethods()) {
+      check(!Modifier.isPrivate(m.getModifiers()) || !names.contains(m.getName()), "a name of the face again: " + m);
     }
     for (Class<?> inner : c.getDeclaredClasses()) {
-      for (Method m : inner.getDeclaredMethods()) check(!names.contains(m.getName()), "a name of the face again: " + m.getName());
+      for (Method m : inner.getDeclaredMethods()) check(!names.contains(m.getName()), "a name of the face again: " + m);
     }
+  }
+
+  private static void constants(Class<?> c, String told) throws IllegalAccessException {
+    Map<String, Integer> want = new TreeMap<>(), got = new TreeMap<>();
+    Matcher constant = Pattern.compile("([A-Z]+) = (-?\\d+)").matcher(told);
+    while (constant.find()) want.put(constant.group(1), Integer.valueOf(constant.group(2)));
+    check(want.size() == 6, "the document has six constants");
+    for (Field f : c.getDeclaredFields()) {
+      if (Modifier.isPrivate(f.getModifiers())) continue;
+      check(f.getModifiers() == (Modifier.PUBLIC | Modifier.STATIC | Modifier.FINAL) && f.getType() == int.class, f + " is a constant");
+      got.put(f.getName(), f.getInt(null));
+    }
+    check(got.equals(want), "the constants are those of the document: " + got);
+  }
+
+  /** What the document has ahead of the calls stands ahead of them in the source, too. */
+  private static void headings() throws IOException {
+    String text = Files.readString(Path.of(DOCUMENT)), source = Files.readString(Path.of(SOURCE));
+    Matcher told = Pattern.compile("Ahead of the calls (.*) the interface says: (---- .*)\\.").matcher(text);
+    int found = 0;
+    while (told.find()) {
+      found++;
+      int from = source.indexOf("// " + told.group(2) + "\n");
+      check(from >= 0, "the source says " + told.group(2));
+      String part = from < 0 ? "" : source.substring(from + 3, source.indexOf("// ----", from + 3));
+      List<String> calls = new ArrayList<>();
+      Matcher method = Pattern.compile("public int (\\w+)\\(").matcher(part);
+      while (method.find()) calls.add("`" + method.group(1) + "`");
+      check(String.join(", ", calls).equals(told.group(1)), "behind " + told.group(2) + " come " + told.group(1) + ", not " + calls);
+    }
+    check(found == 6, "the document has six parts of calls");
   }
 
   private static void members(Class<?> c) {
@@ -100,6 +144,8 @@ public final class LanguageTests {
     while (remainder.find()) check(remainder.group(1).equals("MODULUS"), "a remainder by the modulus alone");
     Matcher imports = Pattern.compile("import ([\\w.*]+);").matcher(code);
     while (imports.find()) check(imports.group(1).equals("java.util.Arrays"), "imports no more than Arrays");
+    Matcher library = Pattern.compile("\\b[A-Z]\\w*\\.\\w+\\(").matcher(code);
+    while (library.find()) check(LIBRARY.contains(library.group()), "uses of the library what is named here: " + library.group());
     // all that a run keeps is made with the object itself
     Matcher made = Pattern.compile("\\n( *)([^\\n]*)\\bnew\\b").matcher(code);
     String field = "(private )?(final )?[\\w\\[\\]]+ \\w+ = .*";
