@@ -185,25 +185,28 @@ public final class LanguageTests {
   }
 
   private static void neverThrows() throws Exception {
-    Method[] calls = SmallWindows.class.getDeclaredMethods();
-    Arrays.sort(calls, (a, b) -> a.getName().compareTo(b.getName()));
+    Method[] methods = SmallWindows.class.getDeclaredMethods();
+    Arrays.sort(methods, (a, b) -> a.getName().compareTo(b.getName()));
     for (int seed = 0; seed < 300; seed++) {
       Random random = new Random(seed);
       SmallWindows x = new SmallWindows();
+      int calls = (seed % 2 == 0 ? 1 : 0) + (seed % 3 == 0 ? 256 : 0);
       if (seed % 2 == 0) x.colours(3);
       if (seed % 3 == 0) for (int block = 0; block < 256; block++) x.allow(block, random.nextInt(10) != 0);
       for (int i = 0; i < 512; i++) {
-        Method m = calls[random.nextInt(calls.length)];
+        Method m = methods[random.nextInt(methods.length)];
         if (!Modifier.isPublic(m.getModifiers()) || m.getName().equals("colours") && random.nextInt(20) != 0) continue;
         Object[] arguments = new Object[m.getParameterCount()];
         for (int k = 0; k < arguments.length; k++) arguments[k] = some(random, m.getParameterTypes()[k]);
         int answer = (Integer) m.invoke(x, arguments);
-        check(answer >= SPENT && answer != -5, m.getName() + Arrays.toString(arguments) + " answered " + answer);
+        calls++;
+        // later answers are free, but they may not throw either
+        check(calls > MOST_CALLS || answer >= SPENT && answer != -5, m.getName() + Arrays.toString(arguments) + " answered " + answer);
       }
     }
   }
 
-  private static final int SPENT = SmallWindows.SPENT;
+  private static final int SPENT = SmallWindows.SPENT, MOST_CALLS = 512;
 
   private static Object some(Random random, Class<?> type) {
     if (type == boolean.class) return random.nextInt(5) != 0;
